@@ -135,7 +135,9 @@ final class FactorMatchPromises {
         Check.same("3: again", x.variable(0, 0, 3), 5);
         Check.same("3: other", x.variable(1, 3, 1), 0);
         Check.same("3: told", told(x), "w3 z 1");
-        Check.same("3: saved", x.count(10), 3);
+        Check.same("3: to none", x.variable(1, 3, 0), 1);
+        Check.same("3: back", x.variable(1, 3, 1), 0);
+        Check.same("3: saved", x.count(10), 5);
         Check.refused(x, "3: the subject", BOUNDS, () -> x.variable(2, 0, 0));
         Check.refused(x, "3: pattern -1", BOUNDS, () -> x.variable(-1, 0, 0));
         Check.refused(x, "3: variable 4", BOUNDS, () -> x.variable(0, 4, 0));
@@ -184,6 +186,8 @@ final class FactorMatchPromises {
         FactorMatch y = with("w", "wy", "a");
         Check.refused(y, "5: a variable without a value", STATE, () -> y.rewrite(0));
         Check.refused(y, "5: no matcher comes first", ARGUMENT, () -> y.rewrite(1));
+        FactorMatch v = with("x", "w", "a");
+        Check.refused(v, "5: the variable 0 without a value", STATE, () -> v.rewrite(0));
         FactorMatch z = with("w", "aw2", "a4");
         Check.same("5: just 9", z.rewrite(0), 9);
         Check.refused(z, "5: above 9", STATE, () -> z.rewrite(0));
@@ -522,6 +526,10 @@ final class FactorMatchPromises {
         Check.refused(x, "19: at most 2, matcher 2", ARGUMENT, () -> x.value(2, 0, 0));
         x.undo();
         Check.same("19: after undo", row(x, 2), due[2]);
+        Check.same("19: unlike times", row(with("wx2y3", "1", "d5"), 1), "0001 0002 0000 ----");
+        FactorMatch one = with("wx", "1", "1");
+        one.set(0, 0);
+        Check.refused(one, "19: nothing to put", ARGUMENT, () -> one.value(0, 0, 0));
         FactorMatch all = with("wxyz", "1", "a9b9c9d9");
         Check.same("19: first of many", row(all, 0), "0000 0000 0000 9999");
         Check.same("19: second of many", row(all, 1), "0000 0000 0001 9998");
@@ -542,6 +550,7 @@ final class FactorMatchPromises {
         Check.same("20: the same patterns", leasts(new FactorMatch()), "0001 0010 0100 1000");
         Check.same("20: none", leasts(with("wxyz", "1", "1")), "");
         Check.same("20: only the difference counts", leasts(with("aw5x2", "c5w4x3", "1")), "0001 0010 1100");
+        Check.same("20: 3w = x + 2y", leasts(with("w3", "xy2", "1")), "0001 1110 1300 2030");
         FactorMatch most = with("w5x5", "y4z4", "1");
         Check.same("20: as many as can be", most.count(4), 30);
         Check.same("20: the last of them", "" + most.least(29, 0) + most.least(29, 1) + most.least(29, 2)
@@ -583,6 +592,8 @@ final class FactorMatchPromises {
         Check.refused(x, "22: 11", ARGUMENT, () -> x.count(11));
         Check.refused(x, "22: -1", ARGUMENT, () -> x.count(-1));
         Check.same("22: each alone is the greatest", with("w", "1", "1").count(5), 1);
+        // 3z = w + 2x: the last number counts too
+        Check.same("22: greatest with z", with("z3", "wx2", "1").count(5), 5);
         Check.same("22: no least one at all", with("wxyz", "1", "1").count(5), 0);
         Check.same("22: the same", with("aw2", "w2a", "1").count(7), 1);
         Check.same("22: other constants", with("aw2", "w2b", "1").count(7), 0);
@@ -665,6 +676,9 @@ final class FactorMatchPromises {
         FactorMatch many = with("wx", "1", "a9b9");
         // of 100 the first 20: a of w in 0 and 1, b of w in 0 to 9
         Check.same("26: only the first 20", many.shortest(1), 19);
+        // x is b at 13, c at 19, and empty at 20
+        Check.same("26: the lowest of several, not the 21st", with("wx", "1", "b2c6").shortest(1), 13);
+        Check.same("26: d counts too", with("wx", "1", "cd").shortest(1), 3);
         FactorMatch last = with("xw", "1", "a4b3");
         Check.same("26: just 20", last.matchers(0), 20);
         Check.same("26: the last of 20", last.shortest(1), 19);
@@ -678,6 +692,7 @@ final class FactorMatchPromises {
         Check.same("27: all", with("w", "1", "a2").openShare(), 1.0);
         Check.same("27: a third", with("a2", "1", "a2b").openShare(), 1.0 / 3.0);
         Check.same("27: also without variables", with("1", "1", "a2").openShare(), 1.0);
+        Check.same("27: d counts too", with("a", "1", "ad3").openShare(), 0.75);
         Check.same("27: nothing open", with("a", "1", "a").openShare(), 0.0);
         Check.same("27: a rest below 0", with("ab", "1", "a9").openShare(), 0.0);
         Check.same("27: empty and below 0", with("ab", "1", "1").openShare(), 0.0);
@@ -721,6 +736,46 @@ final class FactorMatchPromises {
             0,
             0};
         Check.same("28: digest without matchers", below.digest(), hash(none));
+        long[] eight = {
+            6, 2, 8, 2, 3, 1, 0, 0, 0, 0, 3,
+            1, 9,
+            0, 4, 0, 0, 1, 1, 0, 0,  0, 0, 0, 1, 1, 0, 0, 0,  3, 4, 0, 1, 0, 0, 0, 0,
+            3, 4, 10,  0, 1, 16,  0, 1, 16,  1, 2, 12,
+            8, 8,
+            0, 0, 0, 0,  3, 0, 0, 1,  -1, -1, -1, -1,  -1, -1, -1, -1,  0, 0, 0, 1,
+            0, 0, 0, 1,  3, 0, 0, 0,  -1, -1, -1, -1,  -1, -1, -1, -1,  0, 0, 0, 2,
+            1, 0, 0, 0,  2, 0, 0, 1,  -1, -1, -1, -1,  -1, -1, -1, -1,  1, 0, 0, 1,
+            0, 0, 0, 1,  0, 0, 1, 0,  1, 0, 0, 0,  -1, -1, -1, -1,
+            0,
+            0, 7, -1, -1,
+            Double.doubleToLongBits(0.5),
+            0};
+        Check.same("28: digest of the first three of eight", with("b4wx", "dw", "a3b4d").digest(), hash(eight));
+        sharesInDigest();
+    }
+
+    /** With an empty buffer the bits of the share stand before the last value, so they can be told apart. */
+    private static void sharesInDigest() {
+        FactorMatchModel m = new FactorMatchModel();
+        for (int a = 0; a <= 9; a++) {
+            for (int b = 0; b <= 9; b++) {
+                FactorMatch x = new FactorMatch();
+                x.constant(2, 0, a);
+                x.constant(2, 1, b);
+                x.constant(0, 1, b);
+                m.products[2][0] = a;
+                m.products[2][1] = b;
+                m.products[0][1] = b;
+                m.saved.clear();
+                m.save();
+                m.save();
+                m.save();
+                Check.same("28: digest with a share of " + x.openShare(), x.digest(), m.digest());
+            }
+        }
+        FactorMatch least = with("a8b9c9d9", "1", "a9b9c9d9");
+        m.products = new int[][] {{8, 9, 9, 9, 0, 0, 0, 0}, new int[8], {9, 9, 9, 9, 0, 0, 0, 0}};
+        Check.same("28: digest with the smallest share", least.digest(), m.digest());
     }
 
     private static long hash(long[] values) {
