@@ -527,6 +527,10 @@ final class FactorMatchPromises {
         x.undo();
         Check.same("19: after undo", row(x, 2), due[2]);
         Check.same("19: unlike times", row(with("wx2y3", "1", "d5"), 1), "0001 0002 0000 ----");
+        FactorMatch two = with("wx", "1", "ab");
+        two.set(0, 0);
+        Check.same("19: the second of two", row(two, 1), "1000 0100 ---- ----");
+        Check.refused(two, "19: no third", ARGUMENT, () -> two.value(2, 0, 0));
         FactorMatch one = with("wx", "1", "1");
         one.set(0, 0);
         Check.refused(one, "19: nothing to put", ARGUMENT, () -> one.value(0, 0, 0));
@@ -594,6 +598,7 @@ final class FactorMatchPromises {
         Check.same("22: each alone is the greatest", with("w", "1", "1").count(5), 1);
         // 3z = w + 2x: the last number counts too
         Check.same("22: greatest with z", with("z3", "wx2", "1").count(5), 5);
+        Check.same("22: greatest at the first place", with("wxy5", "z4", "1").count(5), 9);
         Check.same("22: no least one at all", with("wxyz", "1", "1").count(5), 0);
         Check.same("22: the same", with("aw2", "w2a", "1").count(7), 1);
         Check.same("22: other constants", with("aw2", "w2b", "1").count(7), 0);
